@@ -52,6 +52,12 @@ final class Check {
         }
     }
 
+    /** Lays a plain YARD, whatever the TAPE holds. */
+    static void lay0(WeatherMarbles x) {
+        x.end(0);
+        lay(x, "b;m");
+    }
+
     /** Tells a LAW and lets it hold: its number. */
     static int holds(WeatherMarbles x, String text) {
         feed(x, text);
