@@ -1655,9 +1655,16 @@ public final class WeatherMarbles {
 
         /** Moves a marble's strength for a trial; the caller moves it back. */
         void move(int marble, int from, int to) {
-            int strength = now.soundSize(yard, marble);
-            strengths[indexOf(from, marble)] -= strength;
-            strengths[indexOf(to, marble)] += strength;
+            lift(marble, from);
+            put(marble, to);
+        }
+
+        private void lift(int marble, int from) {
+            strengths[indexOf(from, marble)] -= now.soundSize(yard, marble);
+        }
+
+        private void put(int marble, int to) {
+            strengths[indexOf(to, marble)] += now.soundSize(yard, marble);
         }
 
         int strengthOf(int place, int kind) {
@@ -1721,22 +1728,46 @@ public final class WeatherMarbles {
             return row;
         }
 
-        /** Spares the long search where farms of one place want two kinds, or nobody lives at a farm's place. */
+        /** Spares the long search where it can be seen at once that some FARM never is CONTENT. */
         private boolean isHopeless() {
             for (int f = 0; f < yard.farms(); f++) {
-                boolean hasBoys = false;
-                for (int b = 0; b < yard.boys(); b++) {
-                    hasBoys |= yard.boyPlace(b) == yard.farmPlace(f);
-                }
-                boolean torn = false;
-                for (int g = 0; g < f; g++) {
-                    torn |= yard.farmPlace(g) == yard.farmPlace(f) && yard.wanted(g) != yard.wanted(f);
-                }
-                if (!hasBoys || torn) {
+                if (!isInhabited(yard.farmPlace(f)) || isTorn(f) || isTooRare(yard.wanted(f))) {
                     return true;
                 }
             }
             return false;
+        }
+
+        private boolean isInhabited(int place) {
+            for (int b = 0; b < yard.boys(); b++) {
+                if (yard.boyPlace(b) == place) {
+                    return true;
+                }
+            }
+            return false;
+        }
+
+        /** Whether a farm of the same place wants another kind. */
+        private boolean isTorn(int farm) {
+            for (int f = 0; f < yard.farms(); f++) {
+                if (yard.farmPlace(f) == yard.farmPlace(farm) && yard.wanted(f) != yard.wanted(farm)) {
+                    return true;
+                }
+            }
+            return false;
+        }
+
+        /** Whether more places want the kind than there are marbles of it with any strength. */
+        private boolean isTooRare(int kind) {
+            int places = 0;
+            for (int f = 0; f < yard.farms(); f++) {
+                places |= yard.wanted(f) == kind ? 1 << yard.farmPlace(f) : 0;
+            }
+            int strong = 0;
+            for (int m = 0; m < yard.marbles(); m++) {
+                strong += yard.kind(m) == kind && !now.isDrained(m) && now.soundSize(yard, m) > 0 ? 1 : 0;
+            }
+            return strong < Integer.bitCount(places);
         }
 
         /** Tries all owners from this marble on. Rows come rising, so only fewer changes beat what was found. */
@@ -1756,11 +1787,25 @@ public final class WeatherMarbles {
                 tryOwners(marble + 1, changes, digits * 10 + (owner == NONE ? 9 : owner));
                 return;
             }
+            lift(marble, owner);
             for (int b = 0; b < yard.boys(); b++) {
-                move(marble, owner, b);
-                tryOwners(marble + 1, b == owner ? changes : changes + 1, digits * 10 + b);
-                move(marble, b, owner);
+                if (b == owner || isFirstElsewhere(b, yard.boyPlace(owner))) {
+                    put(marble, b);
+                    tryOwners(marble + 1, b == owner ? changes : changes + 1, digits * 10 + b);
+                    lift(marble, b);
+                }
             }
+            put(marble, owner);
+        }
+
+        /** A change within the owner's place is wasted, and of the boys of one place the lowest makes the least row. */
+        private boolean isFirstElsewhere(int boy, int ownersPlace) {
+            for (int b = 0; b < boy; b++) {
+                if (yard.boyPlace(b) == yard.boyPlace(boy)) {
+                    return false;
+                }
+            }
+            return yard.boyPlace(boy) != ownersPlace;
         }
     }
 

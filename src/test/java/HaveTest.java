@@ -28,6 +28,8 @@ public final class HaveTest {
         CHECK.due("two have 1", x.corner(1), -1);
         CHECK.due("the only 5", x.corner(5), 2);
         CHECK.due("there is no 0", x.corner(0), -1);
+        CHECK.due("all of 0", plain("b;b;mo1;mo1;mo0w1").corner(0), 1);
+        CHECK.due("the first is another's", plain("b;b;mo0;mo1").corner(0), -1);
         x.swallow(0);
         CHECK.due("a swallowed one is his", x.corner(2), 1);
         x.play(2, 9, 1, 1);
@@ -78,6 +80,7 @@ public final class HaveTest {
         CHECK.due("boy 1: 7 against 4", y.trades(-1), 1);
         y = plain("b;bp1;mo0w1s7;mo1w2s2;fw2;fp1w1");
         CHECK.due("as much is not more", y.trades(-1), 0);
+        CHECK.due("nor to the other", plain("b;bp1;mo0w1s2;mo1w2s7;fw2;fp1w1").trades(-1), 0);
         y.chip(0);
         CHECK.due("7 against 5", y.trades(-1), 1);
         CHECK.due("no farms: never both", plain("b;b;mo0s1;mo1s9").trades(-1), 0);

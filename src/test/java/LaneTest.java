@@ -58,6 +58,9 @@ public final class LaneTest {
         CHECK.due("the drain", near.aim(0, 0), -1);
         Check.holds(near, "y:0");
         CHECK.due("all alike", near.aim(0, 0), 1);
+        Check.lay(near, "sl30r9;b;m");
+        near.law(-1);
+        CHECK.due("as far as he can", near.aim(0, 0), 9);
     }
 
     private static void wins() {

@@ -110,6 +110,9 @@ public final class SkyTest {
         WeatherMarbles z = Check.yard("b;bp1;mo1w1s9;mo0w2s3;mo1w2s5;fp1w2");
         z.swallow(2);
         z.chip(0);
+        WeatherMarbles five = Check.yard("b;bp1;mo1w1s5;ms1;ms1;ms1;ms1;ms1;fp1");
+        five.swallow(0);
+        dueArrange("all five that can", five, 5, 111111);
         dueArrange("7 against 8 with the swallowed one", z, 1, 1);
         z.chip(1);
         dueArrange("the great one moves", z, 1, 1);
@@ -196,6 +199,20 @@ public final class SkyTest {
         WeatherMarbles y = Check.yard("bp4;bp7;mo0w1s5;mo1w2s3");
         // 1: 4 none, 7 is 1; 10: 4 is 1, 7 none; 99: 4 is 1, 7 is 2
         CHECK.due("7 tells all three apart", y.best(), 7);
+        y.chip(0);
+        y.seen(7, 2, true);
+        CHECK.due("anew: 99 alone", y.best(), 0);
+        WeatherMarbles late = Check.yard("bp8;bp9;mo0w5s5;mo1w4s3");
+        // 1: 8 none, 9 is 5; 10: 8 is 5, 9 none; 99: 8 is 5, 9 is 4
+        CHECK.due("9 tells all three apart", late.best(), 9);
+        late.seen(9, 5, false);
+        CHECK.due("10 and 99", late.best(), 9);
+        late.seen(9, 4, false);
+        CHECK.due("10 alone", late.best(), 0);
+        WeatherMarbles third = Check.yard("bp1;bp2;bp3;mo2w1s1;mo0w1s9;mo0w2s9");
+        third.seen(1, 1, false);
+        // 11 and 12: place 2 is 1 or none, place 3 is 1 both times
+        CHECK.due("two of one marble", third.best(), 2);
         WeatherMarbles alone = Check.yard("bp5;m");
         CHECK.due("as now alone: all places alike", alone.best(), 0);
         CHECK.due("no yard", new WeatherMarbles().best(), -1);

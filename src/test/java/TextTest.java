@@ -48,6 +48,9 @@ public final class TextTest {
         CHECK.due("feed 2 of 241", x.feed(0, 0x20000020, 0, 0, 0), -1);
         CHECK.due("still", x.count(4), 239);
         CHECK.due("feed none", x.feed(0, 0, 0, 0, 0), 239);
+        CHECK.due("feed 2 of 241", x.feed(0, 0, 0x20000020, 0, 0), -1);
+        CHECK.due("feed 2 of 241", x.feed(0, 0, 0, 0x20000020, 0), -1);
+        CHECK.due("feed 2 of 241", x.feed(1, 0, 0, 0, 1), -1);
         CHECK.due("feed 1 of 240", x.feed(0, 0x20, 0, 0, 0), 240);
         CHECK.due("feed none of 240", x.feed(0, 0, 0, 0, 0), 240);
         CHECK.due("feed 1 of 241", x.feed(0, 0, 0, 0, 1), -1);
@@ -111,6 +114,18 @@ public final class TextTest {
         yardFault("b p9k5;m", -1);
         yardFault("bk5k5;m", 3);
         yardFault("bk5p1k5;m", 5);
+        yardFault("bp1p1;m", 3);
+        yardFault("sl9l9;b;m", 3);
+        yardFault("sr9r9;b;m", 3);
+        yardFault("sc9c9;b;m", 3);
+        yardFault("b;mo0o0", 5);
+        yardFault("b;mw1w1", 5);
+        yardFault("b;ms1s1", 5);
+        yardFault("b;ms1w1o0s1", 9);
+        yardFault("b;m;fp1p1", 7);
+        yardFault("b;m;fw1w1", 7);
+        yardFault("b;m;fn1n1", 7);
+        yardFault("b;m;fn1;fn1", -1);
         yardFault("bo0;m", 1);
         yardFault("bw0;m", 1);
         yardFault("b;mp0", 3);
@@ -153,6 +168,9 @@ public final class TextTest {
         yardFault("sc0;b;m", -1);
         yardFault("sc99;b;m", -1);
         yardFault("sc100;b;m", 4);
+        yardFault("sc009;b;m", 4);
+        yardFault("sc0009;b;m", 4);
+        yardFault("bp000;m", 4);
         yardFault("bk0;m", 2);
         yardFault("bk00;m", 3);
         yardFault("bk1;m", -1);

@@ -86,6 +86,7 @@ public final class YardTest {
         CHECK.due("usual kind", x.farm(1, 1), 0);
         CHECK.due("usual pay", x.farm(1, 2), 2);
         CHECK.due("no weather at all", x.farm(1, 3), 0);
+        CHECK.due("one behind others", Check.yard("b;mw1;f;fw1").farm(1, 3), 1);
         CHECK.due("another weather", x.farm(2, 3), 0);
         CHECK.due("pays none", x.farm(3, 2), 0);
         CHECK.due("no such what", x.farm(0, 4), -1);
