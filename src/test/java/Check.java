@@ -2,12 +2,19 @@
 final class Check {
     private int wrong = 0;
     private int made = 0;
+    private String said = "";
+
+    /** The document's words against which the answers behind this are held; a quote that is not there is wrong. */
+    void said(int section, String words) {
+        said = "[" + words + "] ";
+        due("the quote stands in section " + section, Document.section(section).contains(words), true);
+    }
 
     void due(String what, long got, long want) {
         made++;
         if (got != want) {
             wrong++;
-            System.out.println(what + " answered " + got + ", due is " + want);
+            System.out.println(said + what + " answered " + got + ", due is " + want);
         }
     }
 

@@ -189,20 +189,6 @@ public final class PastTest {
         CHECK.due("the last one", x.log(59, 0), 41);
     }
 
-    /** The draws as the document tells them, apart from the class. */
-    private static final class Dice {
-        private long x;
-
-        Dice(long seed) {
-            x = seed;
-        }
-
-        int below(int j) {
-            x = x * 6364136223846793005L + 1442695040888963407L;
-            return (int) ((x >>> 33) % j);
-        }
-    }
-
     private static void years() {
         for (long seed : new long[] {0, 1, -1, 123456789012345L, Long.MIN_VALUE, Long.MAX_VALUE}) {
             WeatherMarbles x = Check.yard(YARD);
@@ -212,7 +198,7 @@ public final class PastTest {
             CHECK.due("log", x.count(11), 12);
             WeatherMarbles byHand = Check.yard(YARD);
             Check.holds(byHand, "y:p");
-            yearsByHand(byHand, new Dice(seed), 12, 0);
+            new Dice(seed).years(byHand, 12, 0);
             CHECK.due("by seed " + seed, fingerprint(x), fingerprint(byHand));
             CHECK.due("no status", x.status(0) + x.status(1) + x.status(2), 0);
         }
@@ -240,21 +226,6 @@ public final class PastTest {
         CHECK.due("no game of one marble", x.count(8), 0);
     }
 
-    private static void yearsByHand(WeatherMarbles x, Dice dice, int n, int spills) {
-        int marbles = x.count(0);
-        for (int d = 0; d < n; d++) {
-            int m = dice.below(marbles);
-            int o = dice.below(marbles);
-            int power = dice.below(9) + 1;
-            int against = dice.below(9) + 1;
-            x.play(m, power, o, against);
-            if (dice.below(10) < spills) {
-                x.chip(dice.below(marbles));
-            }
-            x.days(1);
-        }
-    }
-
     private static void yearsWithSpills() {
         for (int spills = 1; spills <= 9; spills++) {
             WeatherMarbles x = Check.yard(YARD);
@@ -263,7 +234,7 @@ public final class PastTest {
             byHand.swallow(2);
             x.spills(spills);
             CHECK.due("years", x.years(20, spills * 1000003L), 20);
-            yearsByHand(byHand, new Dice(spills * 1000003L), 20, spills);
+            new Dice(spills * 1000003L).years(byHand, 20, spills);
             CHECK.due("with spills " + spills, fingerprint(x), fingerprint(byHand));
             CHECK.due("each day is one act", x.count(12), 21);
             for (int i = 20; i >= 1; i--) {
