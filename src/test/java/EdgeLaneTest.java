@@ -236,6 +236,9 @@ public final class EdgeLaneTest {
         dueRests("the hole", pair("y:p"));
         dueRests("all alike", pair("y:3"));
         dueRests("all gone", pair("y:8"));
+        dueRests("all at 0", pair("y:0"));
+        dueRests("the first at 0", pair("y:k=1?0;y:p"));
+        dueRests("the second at 0", pair("y:k=2?0;y:p"));
         dueRests("the second is better", pair("y:k"));
         dueRests("gone or lost", pair("y:p<5?k;y:8"));
         dueRests("the first is always gone", pair("y:k=1?9;y:p"));
@@ -297,8 +300,8 @@ public final class EdgeLaneTest {
         CHECK.due("far behind 60", pair("y:60").odds(0, 1, 1, 1, 100), 0);
     }
 
-    /** By the document's words alone: parts of 10 to the 9, cut, for the hole 5 and the drain 8. */
-    private static long oddsOf(int first, int second, int chance) {
+    /** By the document's words alone: parts of 10 to the 9, cut. */
+    private static long oddsOf(int hole, int drain, int first, int second, int chance) {
         long wins = 0;
         long[] parts = parts(1000000000L, chance);
         for (int i = 0; i < 3; i++) {
@@ -306,7 +309,7 @@ public final class EdgeLaneTest {
             for (int j = 0; j < 3; j++) {
                 int a = Math.max(0, first + i - 1);
                 int b = Math.max(0, second + j - 1);
-                boolean won = a < 8 && b < 8 && Math.abs(a - 5) < Math.abs(b - 5);
+                boolean won = a < drain && b < drain && Math.abs(a - hole) < Math.abs(b - hole);
                 wins += won ? others[j] : 0;
             }
         }
@@ -321,13 +324,22 @@ public final class EdgeLaneTest {
 
     private static void oddsOfAll() {
         CHECK.said(0, "of 10 to the 9 parts those by which the first one wins (100ths of each part, cut; half of those cut is short).");
-        WeatherMarbles x = pair("y:p-1");
-        for (int chance = 0; chance <= 100; chance++) {
-            for (int power = 1; power <= 9; power += chance % 10 == 0 ? 1 : 3) {
-                for (int against = 1; against <= 9; against++) {
-                    CHECK.due(power + " against " + against + " by " + chance, x.odds(0, power, 1, against, chance),
-                        oddsOf(power - 1, against - 1, chance));
+        for (int hole : new int[] {3, 5}) {
+            for (int far : new int[] {1, 3, 9}) {
+                WeatherMarbles x = Check.yard("sl" + hole + "r" + far + ";b;b;mo0;mo1");
+                Check.holds(x, "y:p-1");
+                for (int chance = 0; chance <= 100; chance += chance < 4 || chance > 96 ? 1 : 7) {
+                    oddsOfPowers(x, hole, hole + far, chance);
                 }
+            }
+        }
+    }
+
+    private static void oddsOfPowers(WeatherMarbles x, int hole, int drain, int chance) {
+        for (int power = 1; power <= 9; power++) {
+            for (int against = 1; against <= 9; against++) {
+                CHECK.due(power + " against " + against + " by " + chance, x.odds(0, power, 1, against, chance),
+                    oddsOf(hole, drain, power - 1, against - 1, chance));
             }
         }
     }

@@ -180,6 +180,9 @@ public final class EdgeSkyTest {
         dueArrange("one marble, two places", Check.yard("b;bp1;m;f;fp1"), -1, -1);
         dueArrange("two marbles, two places", Check.yard("b;bp1;m;m;f;fp1"), 1, 1);
         dueArrange("two marbles, three places", Check.yard("b;bp1;bp2;m;m;f;fp1;fp2"), -1, -1);
+        dueArrange("nowhere to put the great one", Check.yard("bp1;ms9;mw1s1;fp1w1"), -1, -1);
+        dueArrange("nor with the other", Check.yard("bp1;bp2;ms9;mw1s1;mo1w2s1;fp1w1;fp2w2"), -1, -1);
+        dueArrange("with a third", Check.yard("bp1;bp2;bp3;ms9;mw1s1;mo1w2s1;fp1w1;fp2w2"), 1, 201);
         WeatherMarbles x = Check.yard("b;bp1;ms2;f");
         dueArrange("strength 2", x, 0, 0);
         x.chip(0);
@@ -198,7 +201,13 @@ public final class EdgeSkyTest {
         CHECK.said(0, "the fewest MARBLES with another OWNER than now (of several the least row): how many;");
         dueArrange("as now", Check.yard("b;bp1;m;mo1;f;fp1"), 0, 1);
         dueArrange("no farms", Check.yard("b;b;b;b;b;m;mo1;mo2;mo3;mo4;mo4"), 0, 12344);
+        dueArrange("as now, all of one place", Check.yard("b;b;mo1;f"), 0, 1);
+        dueArrange("as now, kinds of one place and of two", Check.yard("b;bp1;bp2;m;mo1w1;mo2w1;f;fp1w1;fp2w1"), 0, 12);
         dueArrange("one", Check.yard("b;bp1;m;m;f;fp1"), 1, 1);
+        dueArrange("two change hands", Check.yard("b;bp1;mo1;mo0w1;f;fp1w1"), 2, 1);
+        // each of five kinds is at the wrong place, and the sixth, too great for place 0, is harmless beside a 9 of kind 1
+        dueArrange("all six", Check.yard("b;bp1;bp2;bp3;bp4;mo0w1s9;mo1w2s9;mo2w3s9;mo3w4s9;mo4s1;mo0w5s9;"
+            + "f;fp1w1;fp2w2;fp3w3;fp4w4"), 6, 123401);
         dueArrange("one of six", Check.yard("b;bp1;mw1s1;mw1s1;mw1s1;mw1s1;mw1s1;mw1s1;fp1w1"), 1, 1);
         WeatherMarbles five = Check.yard("b;bp1;mo1w1s5;ms1;ms1;ms1;ms1;ms1;fp1");
         dueArrange("the one goes away", five, 2, 1);
