@@ -9,8 +9,9 @@ import java.util.TreeSet;
 public final class FaceTest {
     private static final String[] FACE = {
         "int feed(int,int,int,int,int)", "boolean end(int)", "int fault(int)", "int text(int)", "int rule(int)",
-        "int boy(int,int)", "int marble(int,int)", "int farm(int,int)", "boolean law(int)", "int play(int,int,int,int)",
-        "int swap(int,int)", "int give(int,int)", "int chip(int)", "int swallow(int)", "int days(int)",
+        "int boy(int,int) throws java.util.NoSuchElementException", "int marble(int,int)", "int farm(int,int)",
+        "boolean law(int)", "int play(int,int,int,int)", "int swap(int,int)", "int give(int,int)",
+        "int chip(int)", "int swallow(int)", "int days(int)",
         "boolean spills(int)", "int years(int,long)", "int status(int)", "int undo()", "int log(int,int)",
         "int lands(int,int,int)", "int aim(int,int)", "int wins(int,int,int,int)", "int weather(int)",
         "int spell(int,int)", "int arrange(int)", "int seen(int,int,boolean)", "int who(int)", "int best()",
@@ -61,6 +62,10 @@ public final class FaceTest {
         for (int i = 0; i < m.getParameterCount(); i++) {
             line.append(i == 0 ? "" : ",").append(m.getParameterTypes()[i].getName());
         }
-        return line.append(')').toString();
+        line.append(')');
+        for (Class<?> thrown : m.getExceptionTypes()) {
+            line.append(" throws ").append(thrown.getName());
+        }
+        return line.toString();
     }
 }

@@ -71,8 +71,8 @@ public final class ReadmeTest {
 
     /** RunTest says what the script does; here it is the one that the page names. */
     private static void dueAllTests(String command) {
-        CHECK.due("the command for all tests: " + command, command.equals(".ci/run\n"), true);
-        CHECK.due("it can be run", Files.isExecutable(Path.of(".ci/run")), true);
+        CHECK.due("the command for all tests: " + command, command.equals("bash .ci/run\n"), true);
+        CHECK.due("it is there", Files.isRegularFile(Path.of(".ci/run")), true);
     }
 
     private static void dueOneTest(String commands) throws IOException, InterruptedException {

@@ -35,7 +35,7 @@ public final class RunTest {
                 }
                 allCompile &= tests[i] != null && !tests[i].equals(BROKEN);
             }
-            Workplace.Ended ended = place.run(".ci/run");
+            Workplace.Ended ended = place.run("bash .ci/run");
             CHECK.due(what + ": it passes", ended.code() == 0, passes);
             for (int i = 0; i < names.length && allCompile; i++) {
                 String name = names[i].substring(names[i].lastIndexOf('/') + 1);

@@ -23,11 +23,9 @@ final class Workplace implements AutoCloseable {
         Files.writeString(to, text);
     }
 
-    /** Copies a file of this project to the same place there; it stays executable, if it is. */
+    /** Copies a file of this project to the same place there. */
     void copy(String file) throws IOException {
-        Path from = Path.of(file);
-        put("main/" + file, Files.readString(from));
-        top.resolve("main/" + file).toFile().setExecutable(Files.isExecutable(from));
+        put("main/" + file, Files.readString(Path.of(file)));
     }
 
     /** The real ../shared stands beside main. */
